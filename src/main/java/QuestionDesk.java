@@ -1,8 +1,8 @@
 import java.util.ArrayList;
 
 /**
- * A desk for questions to rules: what follows of facts by rules is found out for one question alone;
- * which calls the question leads to is worked out by rewritten rules, over the model of all.
+ * A desk for questions to rules: what follows of facts by rules, and which calls one question leads to.
+ * The calls are found by rewritten rules over the model of all, since the document asks for that model too.
  */
 public final class QuestionDesk {
     public static final int NONE = -1;
@@ -21,6 +21,7 @@ public final class QuestionDesk {
     private static final int ANY = LAST_TERM + 1;
 
     // The sets of pairs: of each predicate its model, its calls and what is told; then the answers.
+    // The model's stand first, so that the sets in a told rule are the numbers of its predicates too.
     private static final int MODEL = 0;
     private static final int CALLS = MODEL + MOST_PREDICATES;
     private static final int TOLD = CALLS + MOST_PREDICATES;
@@ -506,6 +507,7 @@ public final class QuestionDesk {
             int headY = values[rule.seconds[0] + 1];
             boolean isHeadKnown = headX != OPEN && headY != OPEN;
             if (isHeadKnown && pairs.has(rule.sets[0], headX, headY)) {
+                // nothing new can come of this way, however the other atoms are matched
                 return false;
             }
             if (a > rule.atoms) {
@@ -531,6 +533,7 @@ public final class QuestionDesk {
         private boolean matchSecond(Rule rule, int a, int row) {
             int term = rule.seconds[a];
             if (term == ANY) {
+                // a variable stands for constants alone, so the lowest bit, FREE, does not count
                 return row >> 1 != 0 && matchAtom(rule, a + 1);
             }
             if (values[term + 1] != OPEN) {
