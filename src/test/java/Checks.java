@@ -1,13 +1,23 @@
 /** Counts what was checked, prints what is not as it is due, and ends the test with its exit code. */
-final class Checks {
+class Checks {
+    private String under = "";
     private int checked = 0;
     private int wrong = 0;
+
+    /** What the messages of the checks that follow begin with. */
+    void under(String words) {
+        under = words;
+    }
+
+    int checked() {
+        return checked;
+    }
 
     void due(String call, Object got, Object want) {
         checked++;
         if (!got.equals(want)) {
             wrong++;
-            System.out.println(call + " answered " + got + ", due is " + want);
+            System.out.println(under + call + " answered " + got + ", due is " + want);
         }
     }
 
