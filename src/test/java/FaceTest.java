@@ -1,5 +1,6 @@
 import java.io.IOException;
 import java.lang.reflect.Constructor;
+import java.lang.reflect.Executable;
 import java.lang.reflect.Field;
 import java.lang.reflect.Method;
 import java.lang.reflect.Modifier;
@@ -9,26 +10,14 @@ import java.util.Arrays;
 import java.util.List;
 import java.util.Set;
 import java.util.TreeSet;
+import java.util.regex.Matcher;
 import java.util.regex.Pattern;
 
 /** The public face of the document, and the rules of LANGUAGE.md that a look at the file can tell. */
 public final class FaceTest {
     private static final Path SOURCE = Path.of("src/main/java/QuestionDesk.java");
-    private static final Set<String> FACE = Set.of(
-        "int predicate(int, boolean) IllegalArgumentException",
-        "boolean fact(int, int, int) IllegalArgumentException",
-        "boolean drop(int, int, int) IllegalArgumentException",
-        "void head(int, int, int) IllegalArgumentException",
-        "int body(int, int, int) IllegalStateException IllegalArgumentException",
-        "int done() IllegalStateException",
-        "boolean take(int)",
-        "int ask(int, int, int) IllegalArgumentException",
-        "int answer(int)",
-        "boolean holds(int, int, int) IllegalArgumentException",
-        "boolean wanted(int, int, int) IllegalArgumentException",
-        "boolean called(int, int, int) IllegalArgumentException",
-        "int of(int, int)",
-        "int count(int)");
+    private static final Path DOCUMENT = Path.of("../shared/DOC.md");
+    private static final int PROMISES = 15;
     private static final List<String> FORBIDDEN = List.of(
         "->", "::", "\\bfinally\\b", "\\bcatch\\b", "\\bsynchronized\\b", "\\bassert\\b", "Exact\\(",
         "\\bRandom\\b", "\\bThread\\b", "\\bSystem\\.(?!arraycopy)", "java\\.io", "java\\.time", "\\bequals\\(");
@@ -36,48 +25,99 @@ public final class FaceTest {
     private static final Checks checks = new Checks();
 
     public static void main(String[] args) throws IOException {
-        face();
+        String document = Files.readString(DOCUMENT);
+        Set<String> face = faceOf(document);
+        classAsWritten(document);
+        members(face);
+        promises(document, face);
+        inside();
         source(Files.readString(SOURCE));
         checks.end("FaceTest");
     }
 
-    private static void face() {
-        Class<QuestionDesk> c = QuestionDesk.class;
-        checks.due("modifiers", Modifier.toString(c.getModifiers()), "public final");
-        Set<String> methods = new TreeSet<>();
+    private static String block(String document) {
+        int start = document.indexOf("```java\n");
+        int end = document.indexOf("```", start + 1);
+        checks.due("the document's face begins and ends", start >= 0 && end > start, true);
+        return document.substring(start, end);
+    }
+
+    private static Set<String> faceOf(String document) {
+        Set<String> face = new TreeSet<>();
+        for (String line : block(document).split("\n")) {
+            if (line.startsWith("    public ")) {
+                face.add(withoutNames(line.strip().replaceFirst(";$", "")));
+            }
+        }
+        return face;
+    }
+
+    private static String withoutNames(String signature) {
+        return signature.replaceAll("\\b(int|boolean) \\w+(?=[,)])", "$1");
+    }
+
+    private static void classAsWritten(String document) {
+        boolean isWritten = block(document).contains("public final class QuestionDesk {");
+        checks.due("the document's class", isWritten, true);
+        checks.due("modifiers", Modifier.toString(QuestionDesk.class.getModifiers()), "public final");
+    }
+
+    /** What is not private is what the document's face has, and its names are for the public methods alone. */
+    private static void members(Set<String> face) {
+        Set<String> members = new TreeSet<>();
         Set<String> names = new TreeSet<>();
-        for (Method m : c.getDeclaredMethods()) {
+        for (Method m : QuestionDesk.class.getDeclaredMethods()) {
             if (!Modifier.isPrivate(m.getModifiers())) {
-                methods.add(signature(m));
+                members.add(signature(m, m.getReturnType() + " " + m.getName()));
                 names.add(m.getName());
             }
         }
-        checks.due("methods", methods, new TreeSet<>(FACE));
-        for (Method m : c.getDeclaredMethods()) {
+        for (Constructor<?> c : QuestionDesk.class.getDeclaredConstructors()) {
+            members.add(signature(c, c.getName()));
+        }
+        for (Field f : QuestionDesk.class.getDeclaredFields()) {
+            if (!Modifier.isPrivate(f.getModifiers())) {
+                String type = Modifier.toString(f.getModifiers()) + " " + f.getType();
+                members.add(type + " " + f.getName() + " = " + QuestionDesk.NONE);
+            }
+        }
+        checks.due("The public face: the class", members, face);
+        for (Method m : QuestionDesk.class.getDeclaredMethods()) {
             boolean hides = Modifier.isPrivate(m.getModifiers()) && names.contains(m.getName());
             checks.due("private method with a public one's name: " + m, hides, false);
         }
-        Constructor<?>[] constructors = c.getDeclaredConstructors();
-        checks.due("constructors", constructors.length, 1);
-        checks.due("constructor", constructors[0].toString(), "public QuestionDesk()");
-        for (Field f : c.getDeclaredFields()) {
-            String want = f.getName().equals("NONE") ? "public static final" : "private";
-            checks.due("field " + f.getName(), Modifier.toString(f.getModifiers()).startsWith(want), true);
-        }
-        for (Class<?> inside : c.getDeclaredClasses()) {
-            checks.due("static " + inside, Modifier.isStatic(inside.getModifiers()), true);
-            checks.due("hidden " + inside, Modifier.isPublic(inside.getModifiers()), false);
-        }
     }
 
-    private static String signature(Method m) {
-        StringBuilder text = new StringBuilder(m.getReturnType() + " " + m.getName());
-        String parameters = Arrays.toString(m.getParameterTypes());
+    private static String signature(Executable e, String name) {
+        String parameters = Arrays.toString(e.getParameterTypes());
+        StringBuilder text = new StringBuilder(Modifier.toString(e.getModifiers())).append(" ").append(name);
         text.append("(").append(parameters, 1, parameters.length() - 1).append(")");
-        for (Class<?> e : m.getExceptionTypes()) {
-            text.append(" ").append(e.getSimpleName());
+        String before = " throws ";
+        for (Class<?> thrown : e.getExceptionTypes()) {
+            text.append(before).append(thrown.getSimpleName());
+            before = ", ";
         }
         return text.toString();
+    }
+
+    /** The signature that each promise begins with is the one of the face. */
+    private static void promises(String document, Set<String> face) {
+        Matcher promise = Pattern.compile("(?m)^## Promise (\\d+): .*\\s+`([^`]*)`:").matcher(document);
+        int found = 0;
+        while (promise.find()) {
+            found++;
+            String signature = "public " + withoutNames(promise.group(2));
+            checks.due("promise " + promise.group(1) + " is of the face", face.contains(signature), true);
+        }
+        checks.due("promises", found, PROMISES);
+    }
+
+    private static void inside() {
+        for (Class<?> inside : QuestionDesk.class.getDeclaredClasses()) {
+            checks.due("static " + inside, Modifier.isStatic(inside.getModifiers()), true);
+            boolean isHidden = !Modifier.isPublic(inside.getModifiers()) && !Modifier.isProtected(inside.getModifiers());
+            checks.due("hidden " + inside, isHidden, true);
+        }
     }
 
     private static void source(String text) {
